@@ -28,6 +28,19 @@ final class Due {
         System.out.println(fault);
     }
 
+    /** The test of one sentence of the document; what it throws is a fault, and the next test runs all the same. */
+    static void sentence(String where, String words, Runnable test) {
+        int earlier = wrong;
+        try {
+            test.run();
+        } catch (RuntimeException | Error thrown) {
+            tell("threw " + thrown);
+        }
+        if (wrong != earlier) {
+            System.out.println("^ does not hold: " + where + ": " + words);
+        }
+    }
+
     static void end() {
         System.out.println(wrong == 0 ? "all answers are as due" : wrong + " answers are not as due");
         if (wrong != 0) {

@@ -9,6 +9,7 @@ import java.util.List;
 public final class ModelTest {
     private static final int RUNS = 60;
     private static final int CALLS = 512;
+    private static final int FULL_RUNS = 45;
     // Own generator with a fixed seed, so that every run of the test makes the same calls.
     private static long seed = 20261115L;
 
@@ -190,7 +191,40 @@ public final class ModelTest {
                 call(x, m, "run " + run + ", call " + i + ": ", run % 3);
             }
         }
+        for (int run = 0; run < FULL_RUNS; run++) {
+            askAll("full run " + run + ": ", run % 3);
+        }
         Due.end();
+    }
+
+    /** Seven persons in 15 calls, and then every question that has one: 497 more, the last of them the 512th. */
+    private static void askAll(String at, int kind) {
+        PedigreePeeling x = new PedigreePeeling();
+        Model m = new Model();
+        for (int p = 0; p < 7; p++) {
+            int a = p < 2 ? 0 : below(p);
+            int b = p < 2 ? 0 : below(p);
+            Due.due(at + "add", a == b ? x.founder() : x.child(a, b), a == b ? m.founder() : m.child(a, b));
+        }
+        int q = someFrequency(kind);
+        Due.due(at + "frequency(" + q + ")", x.frequency(q), m.frequency(q));
+        for (int i = 0; i < 7; i++) {
+            int p = below(7);
+            int g = below(3);
+            int s = someSight(kind);
+            Due.due(at + "see(" + p + ", " + g + ", " + s + ")", x.see(p, g, s), m.see(p, g, s));
+        }
+        for (int p = 0; p < 7; p++) {
+            for (int g = 0; g < 3; g++) {
+                for (int rest = 0; rest < 21; rest++) {
+                    ask(x, m, at, 22, new int[] {p, g, rest / 3, rest % 3});
+                }
+                ask(x, m, at, 19, new int[] {p, g, 0, 0});
+            }
+            ask(x, m, at, 25, new int[] {p, 0, 0, 0});
+            ask(x, m, at, 27, new int[] {p, 0, 0, 0});
+        }
+        ask(x, m, at, 17, new int[] {0, 0, 0, 0});
     }
 
     private static int below(int n) {

@@ -1,12 +1,5 @@
-import java.util.function.ToLongFunction;
-
 /** One method a promise, with answers worked out by hand from the document. */
-public final class PromisesTest {
-    private static final int BAD_ARG = -1;
-    private static final int FULL = -2;
-    private static final int LEAST = Integer.MIN_VALUE;
-    private static final int GREATEST = Integer.MAX_VALUE;
-
+public final class PromisesTest extends Pedigrees {
     public static void main(String[] args) {
         promise1NewObject();
         promise2Founder();
@@ -24,65 +17,6 @@ public final class PromisesTest {
         promise14Before();
         sumsWrap();
         Due.end();
-    }
-
-    private static PedigreePeeling founders(int n) {
-        PedigreePeeling x = new PedigreePeeling();
-        for (int i = 0; i < n; i++) {
-            x.founder();
-        }
-        return x;
-    }
-
-    /** Founders 0 and 1 with the child 2, q = 4: a founder's factors are 144, 96 and 16. */
-    private static PedigreePeeling trio() {
-        PedigreePeeling x = founders(2);
-        x.child(0, 1);
-        x.frequency(4);
-        return x;
-    }
-
-    /** Seven persons in four generations, something seen of two of them. */
-    private static PedigreePeeling family() {
-        PedigreePeeling x = founders(3);
-        x.child(0, 1);
-        x.child(3, 2);
-        x.child(1, 4);
-        x.founder();
-        x.see(3, 1, 4);
-        x.see(5, 2, 0);
-        x.frequency(5);
-        return x;
-    }
-
-    private static void onlySee(PedigreePeeling x, int p, int g) {
-        for (int other = 0; other < 3; other++) {
-            x.see(p, other, other == g ? 1 : 0);
-        }
-    }
-
-    /** All that can be asked of the state, in under 160 calls. */
-    private static String state(PedigreePeeling x) {
-        StringBuilder told = new StringBuilder();
-        int q = x.frequency(0);
-        x.frequency(q);
-        told.append(x.persons()).append(" q").append(q).append(" l").append(x.likelihood());
-        for (int p = 0; p < x.persons(); p++) {
-            told.append(" |").append(x.possible(p)).append(' ').append(x.copies(p));
-            for (int g = 0; g < 3; g++) {
-                told.append(' ').append(x.seen(p, g));
-            }
-            for (int r = 0; r < x.persons(); r++) {
-                told.append(x.before(p, r) ? '<' : '-');
-            }
-        }
-        return told.toString();
-    }
-
-    private static void refused(String call, PedigreePeeling x, ToLongFunction<PedigreePeeling> made, long want) {
-        String before = state(x);
-        Due.due(call, made.applyAsLong(x), want);
-        Due.due("state after the refused " + call, state(x), before);
     }
 
     private static void promise1NewObject() {
